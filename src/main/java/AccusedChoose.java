@@ -352,7 +352,7 @@ public final class AccusedChoose {
       return refuseLong(OTHER);
     }
     holdToday();
-    int untrue = today.untrueOnes(now);
+    int untrue = today.owners(now, false);
     long above = waysToBeCaught(untrue, k, t);
     long below = power(t, untrue);
     long common = commonDivisor(above, below);
@@ -533,7 +533,7 @@ public final class AccusedChoose {
     }
     prices.fill(now);
     other.holdTrue(prices, now);
-    return what == 0 ? other.all : other.trueOnes(now);
+    return what == 0 ? other.all : other.owners(now, true);
   }
 
   public int parole() {
@@ -667,7 +667,7 @@ public final class AccusedChoose {
     for (int i = 0; i < n; i++) {
       for (int person = 0; person < trial.people; person++) {
         seed = seed * 1103515245 + 12345;
-        put(trial.could, person, (seed & Integer.MAX_VALUE) / 65536 % SETS);
+        put(trial.could, person, (seed & 0x7fffffff) / 65536 % SETS);
       }
       sum += tried();
       if (other.without == NONE) {
@@ -1441,22 +1441,12 @@ public final class AccusedChoose {
       return sum;
     }
 
-    int trueOnes(Night night) {
+    /** How many own to a DEED that they DID; or, if not truly, to one that they did not. */
+    int owners(Night night, boolean truly) {
       int sum = 0;
       for (int person = 0; person < people; person++) {
         int deed = at(taken, person);
-        if (deed != NONE && deed == at(night.did, person)) {
-          sum++;
-        }
-      }
-      return sum;
-    }
-
-    int untrueOnes(Night night) {
-      int sum = 0;
-      for (int person = 0; person < people; person++) {
-        int deed = at(taken, person);
-        if (deed != NONE && deed != at(night.did, person)) {
+        if (deed != NONE && (deed == at(night.did, person)) == truly) {
           sum++;
         }
       }

@@ -60,6 +60,25 @@ final class Check {
     }
   }
 
+  /** A new object as told() makes it, but by the calls that add and change. */
+  static AccusedChoose made(String text) {
+    AccusedChoose x = new AccusedChoose();
+    for (String one : text.split(";")) {
+      int first = one.charAt(1) - '0';
+      int second = one.charAt(2) - '0';
+      switch (one.charAt(0)) {
+        case 'd': x.addDeed(first, second); break;
+        case 'p':
+          x.addPerson(first, Integer.parseInt(one.substring(2, 5)), one.charAt(5) - '0');
+          break;
+        case 'b': x.brothers(first, second); break;
+        case 'a': x.alibi(first, second); break;
+        default: x.change(first, second); break;
+      }
+    }
+    return x;
+  }
+
   /** A new object behind a NIGHT that is told. */
   static AccusedChoose told(String text) {
     AccusedChoose x = new AccusedChoose();

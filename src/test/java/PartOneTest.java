@@ -170,6 +170,8 @@ public final class PartOneTest {
     Check.feedAll(x, "d11;");
     C.same("night()", x.night(), 1);
     C.same("count(6)", x.count(6), 0);
+    C.same("person(0, 4): still behind", x.person(0, 4), 1);
+    C.same("count(1)", x.count(1), 2);
     C.same("night() of none", x.night(), -1000);
   }
 

@@ -23,6 +23,7 @@ public final class PartThreeTest {
     newBrothers();
     madeLight();
     always();
+    byCalls();
     C.end();
   }
 
@@ -63,6 +64,10 @@ public final class PartThreeTest {
     C.same("swaps(1): one may not", x.swaps(1), 1);
     C.same("swaps(0)", Check.told(TWO + "b01;").swaps(0), -9);
     C.same("swaps(1)", Check.told(TWO + "b01;").swaps(1), 1);
+    String deeds = "d51;d44;d24;d36;";
+    C.same("swaps(0): 0 and 1", Check.told(deeds + "p20052;p70055;p60097;b10;x12;").swaps(0), 1);
+    C.same("swaps(0): 1 and 2", Check.told(deeds + "p60097;p20052;p70055;b12;x01;").swaps(0), 12);
+    C.same("swaps(1): 1 and 2", Check.told(deeds + "p60097;p20052;p70055;b12;x01;").swaps(1), 0);
     C.same("swaps(1) of nobody", new AccusedChoose().swaps(1), 1);
     C.refuses(TWO, "swaps(2)", o -> o.swaps(2), -2);
     C.refuses(TWO, "swaps(-1)", o -> o.swaps(-1), -2);
@@ -158,6 +163,7 @@ public final class PartThreeTest {
     C.same("bribe(1)", Check.told(TWO).bribe(1), 51);
     C.same("bribe(0): none", Check.told("d00;p00017;p00017;").bribe(0), -9);
     C.same("bribe(1): none", Check.told("d00;p00017;p00017;").bribe(1), -9);
+    C.same("bribe(0): not with 0", Check.told("d00;d04;p00007;p00037;p00017;").bribe(0), 12);
     // 0 and 2 have 20 now and 16 then; others save more, but have more then.
     C.same("bribe(0): fewest then", Check.told(SIX).bribe(0), 2);
     C.same("bribe(1): fewest then", Check.told(SIX).bribe(1), 4);
@@ -243,6 +249,22 @@ public final class PartThreeTest {
     C.same("deed(0, 0): it stays", x.deed(0, 0), 0);
   }
 
+  /** What would be if is reckoned from the night as it is, not as it was last told. */
+  private static void byCalls() {
+    C.promise(32);
+    C.same("heavier(0, 0)", Check.made(TWO).heavier(0, 0), 4);
+    C.promise(33);
+    C.same("bestDid(0)", Check.made("d39;d05;p00037;").bestDid(0), 1);
+    C.promise(40);
+    C.same("parole()", Check.made("d10;d10;p40037;p90037;").parole(), 1);
+    C.promise(41);
+    C.same("newBrothers()", Check.made(TWO).newBrothers(), 1);
+    C.promise(42);
+    C.same("madeLight()", Check.made("d04;d09;p00017;p00027;").madeLight(), 1);
+    C.promise(31);
+    C.same("swaps(0)", Check.made("d51;d44;d24;d36;p20052;p60097;p70055;b20;").swaps(0), 2);
+  }
+
   private static void always() {
     C.promise(43);
     C.same("always()", Check.told(TWO).always(), 1);
@@ -252,6 +274,9 @@ public final class PartThreeTest {
         Check.told("d00;d04;p00017;p00017;p00037;").always(), 1);
     C.same("always(): as it is",
         Check.told("d00;d04;p00037;p00017;p00017;").always(), 1);
+    // 1, 2, 0: 1 takes 0, 2 takes 1, and nobody takes 2; by the others somebody does.
+    C.same("always(): only the first as the last leaves one",
+        Check.told("d00;d01;d02;p00027;p00057;p00077;").always(), 3);
     C.same("always(): both", Check.told("d00;d04;p00037;p00037;").always(), 3);
     C.same("always() of nobody", Check.told("d00;").always(), 0);
   }

@@ -23,6 +23,7 @@ public final class PartTwoTest {
     alibis();
     givenAway();
     caught();
+    byCalls();
     C.end();
   }
 
@@ -78,6 +79,10 @@ public final class PartTwoTest {
     AccusedChoose one = Check.told("d00;p00017;p00017;x01;");
     C.same("least(0): by numbers, none behind all", one.least(0), 0);
     C.same("least(1): by numbers, none behind all", one.least(1), -9);
+    String deeds = "d00;d01;d02;d03;d04;d05;d06;";
+    String people = "p01277;p01277;p01277;p01277;p01277;p01277;p01277;";
+    C.same("least(-1) of seven", Check.told(deeds + people).least(-1), 49);
+    C.same("least(6) of seven", Check.told(deeds + people).least(6), 6);
     // A DEED of 60 for one and none for him are the same months; the DEED is the first.
     C.same("least(0): as many months as none", Check.told("d38;p00017;").least(0), 0);
     C.refuses(TWO, "least(2)", o -> o.least(2), -1);
@@ -110,6 +115,7 @@ public final class PartTwoTest {
     C.same("allFromLast()", x.allFromLast(), 10);
     C.same("allFromLast()", y.allFromLast(), 61);
     C.same("allFromLast()", v.allFromLast(), 70);
+    C.same("allFromLast() at once", Check.told(TWO + "b01;").allFromLast(), 10);
     C.same("allFromLast() of none", new AccusedChoose().allFromLast(), 0);
     x.change(0, 1);
     C.same("allFromLast(): the brother is ahead", x.allFromLast(), 10);
@@ -161,6 +167,8 @@ public final class PartTwoTest {
       C.same("rule(" + rule + ", 0), changed", x.rule(rule, 0), all[rule]);
       C.same("rule(" + rule + ", 1), changed", x.rule(rule, 1), unfair[rule]);
     }
+    C.same("rule(0, 1): the second is the other", Check.told("d59;p01276;p01277;").rule(0, 1), 10);
+    C.same("rule(1, 0): a record of 9", Check.told("d19;d19;p91277;p01277;").rule(1, 0), 48);
     C.same("rule(3, 1) of nobody", new AccusedChoose().rule(3, 1), -9);
     C.refuses(TWO, "rule(5, 0)", o -> o.rule(5, 0), -2);
     C.refuses(TWO, "rule(-1, 0)", o -> o.rule(-1, 0), -2);
@@ -212,6 +220,10 @@ public final class PartTwoTest {
     // 0 has as many behind 1, where 2 or 3 is ahead of 1: 2 is the first of these.
     C.same("changes(): the first two",
         Check.told("d00;d00;p00007;p00037;p00017;p00017;").changes(), 2);
+    C.same("changes(): by one month", Check.told("d00;d22;d00;p00057;p00037;").changes(), 1);
+    // The same two, but 0 stands behind them and has a DEED of his own.
+    C.same("changes(): not with 0",
+        Check.told("d00;d22;d00;d00;p00087;p00057;p00037;x01;x02;").changes(), 12);
     C.same("changes() of nobody", new AccusedChoose().changes(), -9);
   }
 
@@ -263,6 +275,7 @@ public final class PartTwoTest {
     C.same("putIn(9, 1): a DID of 7 is none", Check.told(deeds + "p00007;").putIn(9, 1), 22);
     AccusedChoose y = Check.told("p00007;p00007;p00007;p00003;");
     C.same("putIn(9, 1): nobody DID these", y.putIn(9, 1), 88);
+    C.same("putIn(9, 1): 0 DID none of these", Check.told("p00000;").putIn(9, 1), 22);
     C.same("putIn(0, 0) with nobody", new AccusedChoose().putIn(0, 0), 0);
     C.refuses(TWO, "putIn(-1, 9)", o -> o.putIn(-1, 9), -4);
     C.refuses(TWO, "putIn(10, 9)", o -> o.putIn(10, 9), -6);
@@ -286,6 +299,10 @@ public final class PartTwoTest {
     C.same("together(7, 0)", y.together(7, 0), 21);
     C.same("together(7, 1)", y.together(7, 1), 49);
     C.same("together(1, 0): must take", Check.told(GRAVE_OF_66).together(1, 0), 66);
+    C.same("together(3, 0): the first finds none",
+        Check.told("d00;p00007;p00017;").together(3, 0), 61);
+    C.same("together(127, 0)", Check.told("d00;d01;d02;d03;d04;d05;d06;"
+        + "p01277;p01277;p01277;p01277;p01277;p01277;p01277;").together(127, 0), 49);
     C.same("together(0, 0) of nobody", new AccusedChoose().together(0, 0), 0);
     y.change(0, 2);
     C.same("together(5, 0): 2 is the first", y.together(5, 0), 12);
@@ -325,6 +342,20 @@ public final class PartTwoTest {
   private static void odds(AccusedChoose x, int t, int k, long above, long below) {
     C.same("caught(" + t + ", " + k + ", 0)", x.caught(t, k, 0), above);
     C.same("caught(" + t + ", " + k + ", 1)", x.caught(t, k, 1), below);
+  }
+
+  /** What would be if is reckoned from the night as it is, not as it was last told. */
+  private static void byCalls() {
+    C.promise(24);
+    C.same("putIn(0, 1)", Check.made(TWO).putIn(0, 1), 5);
+    C.promise(26);
+    C.same("alibiWorth(0, 0)", Check.made(TWO).alibiWorth(0, 0), -51);
+    C.promise(27);
+    C.same("givenAway()", Check.made(TWO + "a00;a10;").givenAway(), 10);
+    C.promise(16);
+    C.same("fromLast(0, 0)", Check.made(TWO + "b01;").fromLast(0, 0), 1);
+    C.promise(13);
+    C.same("takes(0, 0)", Check.made(TWO + "a00;x01;").takes(0, 0), 1);
   }
 
   private static void caught() {

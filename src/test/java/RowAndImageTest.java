@@ -110,6 +110,7 @@ public final class RowAndImageTest {
     lot("d00;p00007;p00007;", 2, 181, 0);
     lot("d00;d00;p00007;p00007;", 2, 63, 1);
     lot("", 20, 0, 20);
+    C.same("lots(3, 1, 0) by calls", Check.made("d00;p00007;").lots(3, 1, 0), 121);
     AccusedChoose x = Check.told("d00;p01277;p00007;");
     x.lots(20, -5, 0);
     C.same("person(0, 1): COULD stays", x.person(0, 1), 127);
