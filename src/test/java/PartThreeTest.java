@@ -3,7 +3,6 @@ public final class PartThreeTest {
   private static final Check C = new Check("PartThreeTest");
   // 0 may own to 0 (1 month) and 1 (9 months), 1 only to 0.
   private static final String TWO = "d00;d04;p00037;p00017;";
-  private static final String SIX_PEOPLE = "p00007;p00007;p00007;p00007;p00007;p00007;";
   private static final String SIX =
       "d03;d15;d29;d34;d48;d57;p41277;p00632;p90157;p50016;p20127;p61274;a50;x45;";
 
@@ -69,8 +68,6 @@ public final class PartThreeTest {
     C.same("swaps(0): 1 and 2", Check.told(deeds + "p60097;p20052;p70055;b12;x01;").swaps(0), 12);
     C.same("swaps(1): 1 and 2", Check.told(deeds + "p60097;p20052;p70055;b12;x01;").swaps(1), 0);
     C.same("swaps(1) of nobody", new AccusedChoose().swaps(1), 1);
-    C.refuses(TWO, "swaps(2)", o -> o.swaps(2), -2);
-    C.refuses(TWO, "swaps(-1)", o -> o.swaps(-1), -2);
   }
 
   private static void heavier() {
@@ -82,10 +79,6 @@ public final class PartThreeTest {
     C.same("heavier(1, 1): he may not", x.heavier(1, 1), -9);
     C.same("deed(0, 1): it stays", x.deed(0, 1), 0);
     C.same("heavier(0, 1): lighter than it is", Check.told("d01;d05;p00037;").heavier(0, 1), 0);
-    C.refuses(TWO, "heavier(2, 0)", o -> o.heavier(2, 0), -1);
-    C.refuses(TWO, "heavier(0, 2)", o -> o.heavier(0, 2), -1);
-    C.refuses(TWO, "heavier(-1, 0)", o -> o.heavier(-1, 0), -1);
-    C.refuses(TWO, "heavier(0, -1)", o -> o.heavier(0, -1), -1);
   }
 
   private static void bestDid() {
@@ -101,8 +94,6 @@ public final class PartThreeTest {
     AccusedChoose x = Check.told("d00;d00;p00037;p00027;");
     C.same("bestDid(1): 1 or 7", x.bestDid(1), 1);
     C.same("person(1, 2): it stays", x.person(1, 2), 7);
-    C.refuses(TWO, "bestDid(2)", o -> o.bestDid(2), -1);
-    C.refuses(TWO, "bestDid(-1)", o -> o.bestDid(-1), -1);
   }
 
   private static void rests() {
@@ -119,8 +110,6 @@ public final class PartThreeTest {
     C.same("rest(0): one by one", seven.rest(0), 7);
     C.same("rest(1): one by one", seven.rest(1), 49);
     C.same("rest(2): one by one", seven.rest(2), 0);
-    C.refuses(TWO, "rest(3)", o -> o.rest(3), -2);
-    C.refuses(TWO, "rest(-1)", o -> o.rest(-1), -2);
   }
 
   private static void evenOrders() {
@@ -138,9 +127,6 @@ public final class PartThreeTest {
     C.same("even(0): the first such", Check.told("d00;p00017;p00017;x01;").even(0), 0);
     C.same("even(-1) of nobody", new AccusedChoose().even(-1), 0);
     C.same("even(0) of nobody", new AccusedChoose().even(0), -9);
-    C.refuses(SIX_PEOPLE, "even(-2)", o -> o.even(-2), -3);
-    C.refuses(SIX_PEOPLE, "even(0)", o -> o.even(0), -3);
-    C.refuses(TWO, "even(-2)", o -> o.even(-2), -4);
   }
 
   private static void lastWords() {
@@ -153,8 +139,6 @@ public final class PartThreeTest {
     C.same("lastWord(0)", Check.told(TWO).lastWord(0), 9);
     C.same("lastWord(1)", Check.told(TWO).lastWord(1), 60);
     C.same("lastWord(0): alone", Check.told("d00;p00017;").lastWord(0), 1);
-    C.refuses(TWO, "lastWord(2)", o -> o.lastWord(2), -1);
-    C.refuses(TWO, "lastWord(-1)", o -> o.lastWord(-1), -1);
   }
 
   private static void bribes() {
@@ -167,8 +151,6 @@ public final class PartThreeTest {
     // 0 and 2 have 20 now and 16 then; others save more, but have more then.
     C.same("bribe(0): fewest then", Check.told(SIX).bribe(0), 2);
     C.same("bribe(1): fewest then", Check.told(SIX).bribe(1), 4);
-    C.refuses(TWO, "bribe(2)", o -> o.bribe(2), -2);
-    C.refuses(TWO, "bribe(-1)", o -> o.bribe(-1), -2);
   }
 
   private static void latestPlaces() {
@@ -186,10 +168,6 @@ public final class PartThreeTest {
     C.same("latest(1, 1): nobody else may", Check.told("d00;p00007;p00017;").latest(1, 1), 1);
     C.same("latest(0, 1): the first is the worst",
         Check.told("d39;p00017;p00017;").latest(0, 1), 66);
-    C.refuses(TWO, "latest(2, 2)", o -> o.latest(2, 2), -1);
-    C.refuses(TWO, "latest(-1, 0)", o -> o.latest(-1, 0), -1);
-    C.refuses(TWO, "latest(0, 2)", o -> o.latest(0, 2), -2);
-    C.refuses(TWO, "latest(0, -1)", o -> o.latest(0, -1), -2);
   }
 
   private static void truth(String night, int all, int ones) {
@@ -206,8 +184,6 @@ public final class PartThreeTest {
     truth("d00;d04;p00031;p00010;", 7, 2);
     truth("d39;p00010;", 44, 1);
     truth("", 0, 0);
-    C.refuses(TWO, "truth(2)", o -> o.truth(2), -2);
-    C.refuses(TWO, "truth(-1)", o -> o.truth(-1), -2);
   }
 
   private static void paroles() {

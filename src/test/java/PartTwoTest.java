@@ -5,7 +5,6 @@ public final class PartTwoTest {
   private static final String TWO = "d00;d04;p00037;p00017;";
   private static final String FIVE =
       "d03;d15;d29;d34;d48;d57;p41277;p00632;p90157;p50016;p20127;";
-  private static final String SIX_PEOPLE = "p00007;p00007;p00007;p00007;p00007;p00007;";
   private static final String GRAVE_OF_66 = "d39;p00017;";
 
   public static void main(String[] args) {
@@ -39,10 +38,6 @@ public final class PartTwoTest {
     C.same("takes(0, 0): of two alike the least", Check.told("d11;d00;d00;p01277;").takes(0, 0), 1);
     C.same("takes(0, 0): also above 60", Check.told(GRAVE_OF_66).takes(0, 0), 0);
     C.same("takes(0, 1): also above 60", Check.told(GRAVE_OF_66).takes(0, 1), 66);
-    C.refuses(TWO, "takes(2, 5)", o -> o.takes(2, 5), -1);
-    C.refuses(TWO, "takes(-1, 0)", o -> o.takes(-1, 0), -1);
-    C.refuses(TWO, "takes(0, 2)", o -> o.takes(0, 2), -2);
-    C.refuses(TWO, "takes(0, -1)", o -> o.takes(0, -1), -2);
     C.promise(14);
     C.same("morning(0)", x.morning(0), 3);
     C.same("morning(1)", x.morning(1), 125);
@@ -55,8 +50,6 @@ public final class PartTwoTest {
     // 4, 1, 2, 3, 0: 4 takes 2 (9), 1 takes 0 (7), 2 takes 5 (13), 3 none, 0 takes 4 (9).
     C.same("morning(1)", x.morning(1), 98);
     C.same("takes(4, 0)", x.takes(4, 0), 2);
-    C.refuses(TWO, "morning(3)", o -> o.morning(3), -2);
-    C.refuses(TWO, "morning(-1)", o -> o.morning(-1), -2);
   }
 
   private static void least() {
@@ -85,8 +78,6 @@ public final class PartTwoTest {
     C.same("least(6) of seven", Check.told(deeds + people).least(6), 6);
     // A DEED of 60 for one and none for him are the same months; the DEED is the first.
     C.same("least(0): as many months as none", Check.told("d38;p00017;").least(0), 0);
-    C.refuses(TWO, "least(2)", o -> o.least(2), -1);
-    C.refuses(TWO, "least(-2)", o -> o.least(-2), -1);
   }
 
   private static void fromLast() {
@@ -108,9 +99,6 @@ public final class PartTwoTest {
     C.same("fromLast(0, 0) with one between", v.fromLast(0, 0), 0);
     C.same("fromLast(1, 0) with one between", v.fromLast(1, 0), -9);
     C.same("fromLast(2, 1) with one between", v.fromLast(2, 1), 9);
-    C.refuses(TWO, "fromLast(2, 2)", o -> o.fromLast(2, 2), -1);
-    C.refuses(TWO, "fromLast(-1, 0)", o -> o.fromLast(-1, 0), -1);
-    C.refuses(TWO, "fromLast(0, 2)", o -> o.fromLast(0, 2), -2);
     C.promise(17);
     C.same("allFromLast()", x.allFromLast(), 10);
     C.same("allFromLast()", y.allFromLast(), 61);
@@ -140,11 +128,6 @@ public final class PartTwoTest {
     String seven = "p01276;p01276;p01276;p01276;p01276;p01276;p01276;";
     C.same("whose: six of seven", Check.told(six + seven).whose(-1, -1), 5040);
     C.same("whose: six of seven", Check.told(six + seven).whose(6, 5), 720);
-    C.refuses(TWO, "whose(-1, 0)", o -> o.whose(-1, 0), -1);
-    C.refuses(TWO, "whose(0, -1)", o -> o.whose(0, -1), -1);
-    C.refuses(TWO, "whose(2, 0)", o -> o.whose(2, 0), -1);
-    C.refuses(TWO, "whose(0, 2)", o -> o.whose(0, 2), -1);
-    C.refuses(TWO, "whose(-2, -1)", o -> o.whose(-2, -1), -1);
   }
 
   private static void rules() {
@@ -170,10 +153,6 @@ public final class PartTwoTest {
     C.same("rule(0, 1): the second is the other", Check.told("d59;p01276;p01277;").rule(0, 1), 10);
     C.same("rule(1, 0): a record of 9", Check.told("d19;d19;p91277;p01277;").rule(1, 0), 48);
     C.same("rule(3, 1) of nobody", new AccusedChoose().rule(3, 1), -9);
-    C.refuses(TWO, "rule(5, 0)", o -> o.rule(5, 0), -2);
-    C.refuses(TWO, "rule(-1, 0)", o -> o.rule(-1, 0), -2);
-    C.refuses(TWO, "rule(0, 2)", o -> o.rule(0, 2), -2);
-    C.refuses(TWO, "rule(0, -1)", o -> o.rule(0, -1), -2);
   }
 
   private static void rulesAlike() {
@@ -205,8 +184,6 @@ public final class PartTwoTest {
     C.same("placeWorth(1)", x.placeWorth(1), 59);
     C.same("placeWorth(0): below 0", Check.told("d39;p00017;p00017;").placeWorth(0), -6);
     C.same("placeWorth(0): alone", Check.told("d00;p00017;").placeWorth(0), 0);
-    C.refuses(TWO, "placeWorth(2)", o -> o.placeWorth(2), -1);
-    C.refuses(TWO, "placeWorth(-1)", o -> o.placeWorth(-1), -1);
   }
 
   private static void changes() {
@@ -249,9 +226,6 @@ public final class PartTwoTest {
       C.same("bestOrder(" + i + ")", v.bestOrder(i), 4 - i);
     }
     C.same("bestOrder(-1)", v.bestOrder(-1), 25);
-    C.refuses(SIX_PEOPLE, "bestOrder(-2)", o -> o.bestOrder(-2), -3);
-    C.refuses(SIX_PEOPLE, "bestOrder(0)", o -> o.bestOrder(0), -3);
-    C.refuses(TWO, "bestOrder(-2)", o -> o.bestOrder(-2), -4);
   }
 
   private static void putIn() {
@@ -277,10 +251,6 @@ public final class PartTwoTest {
     C.same("putIn(9, 1): nobody DID these", y.putIn(9, 1), 88);
     C.same("putIn(9, 1): 0 DID none of these", Check.told("p00000;").putIn(9, 1), 22);
     C.same("putIn(0, 0) with nobody", new AccusedChoose().putIn(0, 0), 0);
-    C.refuses(TWO, "putIn(-1, 9)", o -> o.putIn(-1, 9), -4);
-    C.refuses(TWO, "putIn(10, 9)", o -> o.putIn(10, 9), -6);
-    C.refuses(TWO, "putIn(0, 2)", o -> o.putIn(0, 2), -2);
-    C.refuses(TWO, "putIn(9, -1)", o -> o.putIn(9, -1), -2);
   }
 
   private static void together() {
@@ -306,12 +276,6 @@ public final class PartTwoTest {
     C.same("together(0, 0) of nobody", new AccusedChoose().together(0, 0), 0);
     y.change(0, 2);
     C.same("together(5, 0): 2 is the first", y.together(5, 0), 12);
-    C.refuses(TWO, "together(-1, 5)", o -> o.together(-1, 5), -4);
-    C.refuses(TWO, "together(4, 5)", o -> o.together(4, 5), -6);
-    C.refuses(TWO, "together(3, 2)", o -> o.together(3, 2), -2);
-    C.refuses("", "together(1, 0)", o -> o.together(1, 0), -6);
-    C.refuses(TWO, "together(least, 0)", o -> o.together(Integer.MIN_VALUE, 0), -4);
-    C.refuses(TWO, "together(greatest, 0)", o -> o.together(Integer.MAX_VALUE, 0), -6);
   }
 
   private static void alibis() {
@@ -323,9 +287,6 @@ public final class PartTwoTest {
     AccusedChoose x = Check.told("d00;p00017;a00;");
     C.same("alibiWorth: lost", x.alibiWorth(0, 0), -59);
     C.same("count(3): it stays", x.count(3), 1);
-    C.refuses(TWO, "alibiWorth(2, 0)", o -> o.alibiWorth(2, 0), -1);
-    C.refuses(TWO, "alibiWorth(0, 2)", o -> o.alibiWorth(0, 2), -1);
-    C.refuses(TWO, "alibiWorth(-1, -1)", o -> o.alibiWorth(-1, -1), -1);
   }
 
   private static void givenAway() {
@@ -378,11 +339,5 @@ public final class PartTwoTest {
     odds(y, 20, 7, 1, 1280000000L);
     odds(y, 2, 3, 35, 128);
     odds(new AccusedChoose(), 2, 0, 1, 1);
-    C.refuses(TWO, "caught(1, 8, 2)", o -> o.caught(1, 8, 2), -4);
-    C.refuses(TWO, "caught(21, -1, 2)", o -> o.caught(21, -1, 2), -4);
-    C.refuses(TWO, "caught(21, 0, 2)", o -> o.caught(21, 0, 2), -6);
-    C.refuses(TWO, "caught(2, 8, 2)", o -> o.caught(2, 8, 2), -6);
-    C.refuses(TWO, "caught(2, 0, 2)", o -> o.caught(2, 0, 2), -2);
-    C.refuses(TWO, "caught(20, 7, -1)", o -> o.caught(20, 7, -1), -2);
   }
 }
