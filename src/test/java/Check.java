@@ -89,9 +89,13 @@ final class Check {
     sameText(call, Trace.spend(x), Trace.spend(made.get()));
   }
 
-  /** The call, at the very edge of what it takes, answers this, and no refusal is counted. */
+  /** Behind a night that is told, and one made by calls: the call answers this, and is no refusal. */
   void takes(String night, String call, ToLongFunction<AccusedChoose> what, long due) {
-    AccusedChoose x = told(night);
+    answers(told(night), call, what, due);
+    answers(made(night), call + ", made by calls", what, due);
+  }
+
+  private void answers(AccusedChoose x, String call, ToLongFunction<AccusedChoose> what, long due) {
     same(call, what.applyAsLong(x), due);
     for (int i = 11; i <= 16; i++) {
       same(call + ", then count(" + i + ")", x.count(i), 0);
@@ -134,7 +138,7 @@ final class Check {
   /** A new object as told() makes it, but by the calls that add and change. */
   static AccusedChoose made(String text) {
     AccusedChoose x = new AccusedChoose();
-    for (String one : text.split(";")) {
+    for (String one : text.isEmpty() ? new String[0] : text.split(";")) {
       int first = one.charAt(1) - '0';
       int second = one.charAt(2) - '0';
       switch (one.charAt(0)) {

@@ -44,6 +44,7 @@ public final class EdgeChoosingTest {
     caughtWhom();
     caughtFractions();
     caughtEdges();
+    askedBehindMore();
     C.end();
   }
 
@@ -118,9 +119,9 @@ public final class EdgeChoosingTest {
   // ---- LEAST
 
   private static void least(String night, int... due) {
-    AccusedChoose x = Check.told(night);
     for (int i = 0; i < due.length; i++) {
-      C.same("least(" + (i - 1) + ") of " + night, x.least(i - 1), due[i]);
+      int person = i - 1;
+      C.takes(night, "least(" + person + ") of " + night, x -> x.least(person), due[i]);
     }
   }
 
@@ -177,19 +178,17 @@ public final class EdgeChoosingTest {
   // ---- FROM THE LAST BACK
 
   private static void lastBack(String night, int all, int... due) {
-    AccusedChoose x = Check.told(night);
-    C.same("allFromLast() of " + night, x.allFromLast(), all);
+    C.takes(night, "allFromLast() of " + night, x -> x.allFromLast(), all);
     int sum = 0;
-    for (int person = 0; person < due.length; person++) {
-      C.same("fromLast(" + person + ", 0) of " + night, x.fromLast(person, 0), due[person]);
-      int his = x.fromLast(person, 1);
-      C.same("fromLast(" + person + ", 1) of " + night, his,
-          due[person] == -9 ? 60 : x.months(person, due[person]));
+    for (int i = 0; i < due.length; i++) {
+      int person = i;
+      int deed = due[i];
+      int his = deed == -9 ? 60 : Check.told(night).months(person, deed);
+      C.takes(night, "fromLast(" + i + ", 0) of " + night, x -> x.fromLast(person, 0), deed);
+      C.takes(night, "fromLast(" + i + ", 1) of " + night, x -> x.fromLast(person, 1), his);
       sum += his;
     }
-    C.promise(17);
-    C.same("allFromLast() is of all of " + night, sum, all);
-    C.promise(16);
+    C.same("all MONTHS are of all of " + night, sum, all);
   }
 
   private static void lastBackMustTake() {
@@ -338,16 +337,16 @@ public final class EdgeChoosingTest {
   // ---- RULES
 
   private static void rules(String night, int... due) {
-    AccusedChoose x = Check.told(night);
-    for (int rule = 0; rule <= 4; rule++) {
-      C.same("rule(" + rule + ", 0) of " + night, x.rule(rule, 0), due[rule]);
+    for (int i = 0; i <= 4; i++) {
+      int rule = i;
+      C.takes(night, "rule(" + rule + ", 0) of " + night, x -> x.rule(rule, 0), due[rule]);
     }
   }
 
   private static void unfairBy(String night, int... due) {
-    AccusedChoose x = Check.told(night);
-    for (int rule = 0; rule <= 4; rule++) {
-      C.same("rule(" + rule + ", 1) of " + night, x.rule(rule, 1), due[rule]);
+    for (int i = 0; i <= 4; i++) {
+      int rule = i;
+      C.takes(night, "rule(" + rule + ", 1) of " + night, x -> x.rule(rule, 1), due[rule]);
     }
   }
 
@@ -360,6 +359,9 @@ public final class EdgeChoosingTest {
     // A THEFT of 6, and 4 for who DID it. Alike ones stand by numbers, whatever the ORDER is.
     rules("d10;p50010;p50017;p50017;x02;", 126, 124, 124, 124, 126);
     rules("d10;p50017;p50017;p50010;x02;", 124, 126, 126, 124, 126);
+    // A THEFT of 26 for a RECORD of 9, of 22 for one of 0: both find one by each RULE.
+    rules("d19;d19;p91277;p01277;", 48, 48, 48, 48, 48);
+    rules("d19;d19;p01277;p91277;x01;", 48, 48, 48, 48, 48);
     rules("", 0, 0, 0, 0, 0);
     rules(FULL, 49, 49, 49, 49, 49);
     rules(NOBODY_MAY, 420, 420, 420, 420, 420);
@@ -470,6 +472,8 @@ public final class EdgeChoosingTest {
     changing("d00;d00;p00037;p00017;", 1);
     changing("d00;d00;p00017;p00037;", -9);
     changing("d00;d00;p00017;p00037;x01;", 1);
+    // One fewer by one month, the other as many.
+    changing("d00;d22;d00;p00057;p00037;", 1);
     // One fewer by 8, the other more by 2.
     changing("d00;d01;d04;p00037;p00057;", -9);
     // 6 finds none behind 5. Ahead of 0, whom it costs nothing, he does; and only ahead of 5, if
@@ -479,13 +483,13 @@ public final class EdgeChoosingTest {
   }
 
   private static void order(String night, int all, int... due) {
-    AccusedChoose x = Check.told(night);
-    C.same("bestOrder(-1) of " + night, x.bestOrder(-1), all);
-    for (int i = 0; i < due.length; i++) {
-      C.same("bestOrder(" + i + ") of " + night, x.bestOrder(i), due[i]);
+    C.takes(night, "bestOrder(-1) of " + night, x -> x.bestOrder(-1), all);
+    for (int k = 0; k < due.length; k++) {
+      int i = k;
+      C.takes(night, "bestOrder(" + i + ") of " + night, x -> x.bestOrder(i), due[i]);
     }
     for (int i : new int[] {due.length, due.length + 1, 6, 7, 120, Integer.MAX_VALUE}) {
-      C.same("bestOrder(" + i + ") of " + night, x.bestOrder(i), -9);
+      C.takes(night, "bestOrder(" + i + ") of " + night, x -> x.bestOrder(i), -9);
     }
   }
 
@@ -699,6 +703,38 @@ public final class EdgeChoosingTest {
     odds(FULL, 7, 1, 46656, 117649);
     odds(FULL, 2, 3, 35, 128);
     odds(FULL, 14, 6, 13, 15059072);
+  }
+
+  /** What was asked of more DEEDS and PEOPLE leaves nothing behind for the night that is restored. */
+  private static void askedBehindMore() {
+    for (String night : new String[] {"", "d00;p00017;", "d00;d04;p00037;p00017;b01;"}) {
+      AccusedChoose x = Check.told(night);
+      x.image();
+      while (x.addDeed(3, 9) >= 0) {
+        x.addPerson(9, 127, 0);
+      }
+      x.addPerson(9, 127, 0);
+      x.brothers(x.count(0) - 1, 0);
+      String more = asked(x);
+      C.sameText("what is asked once more of " + night, asked(x), more);
+      x.restore();
+      C.sameText("what is asked of " + night, asked(x), asked(Check.told(night)));
+    }
+  }
+
+  private static String asked(AccusedChoose x) {
+    StringBuilder s = new StringBuilder();
+    int all = (1 << x.count(0)) - 1;
+    s.append(x.least(-1)).append(' ').append(x.together(all, 0)).append(' ');
+    s.append(x.together(all & 1, 1)).append(' ').append(x.least(-1)).append(' ');
+    s.append(x.morning(1)).append(' ').append(x.allFromLast()).append(' ').append(x.whose(-1, -1));
+    s.append(' ').append(x.changes()).append(' ').append(x.putIn(9, 1)).append(' ');
+    s.append(x.givenAway()).append(' ').append(x.caught(3, 1, 0)).append(' ').append(x.bestRule());
+    for (int person = 0; person < x.count(0); person++) {
+      s.append(' ').append(x.least(person)).append(' ').append(x.fromLast(person, 0));
+      s.append(' ').append(x.placeWorth(person)).append(' ').append(x.takes(person, 1));
+    }
+    return s.toString();
   }
 
   private static void caughtEdges() {

@@ -37,6 +37,7 @@ public final class EdgeNightTest {
     eachThatIsNotRefused();
     latestFirst();
     eightAtMost();
+    olderOnesStay();
     leavesNone();
     C.end();
   }
@@ -184,7 +185,11 @@ public final class EdgeNightTest {
     for (int i = 0; i < 7; i++) {
       C.same("person(" + i + ", 3) at first", x.person(i, 3), -9);
     }
-    C.same("brothers(6, 0)", x.brothers(6, 0), -9);
+    C.says("whose BROTHER the first was; -9");
+    C.same("brothers(6, 0): the first had none", x.brothers(6, 0), -9);
+    C.same("brothers(6, 0): the first had this one", x.brothers(6, 0), 0);
+    C.same("brothers(5, 0): the first had none, the other one", x.brothers(5, 0), -9);
+    C.same("brothers(0, 6): the first had one, the other none", x.brothers(0, 6), 5);
     C.same("person(6, 3)", x.person(6, 3), 0);
     C.same("person(0, 3)", x.person(0, 3), 6);
     C.says("ORDER: as they came at first.");
@@ -680,6 +685,50 @@ public final class EdgeNightTest {
     x.change(0, 1);
     C.same("count(6): from one on again", x.count(6), 1);
     C.same("back()", x.back(), 0);
+  }
+
+  /** Twelve changes of all three sorts, and nights behind the first of them. */
+  private static AccusedChoose changed(int howMany) {
+    AccusedChoose x = Check.told("d00;d00;p01277;p01277;p01277;p01277;p01277;b01;b23;");
+    for (int i = 0; i < howMany; i++) {
+      switch (i) {
+        case 0: x.brothers(0, 2); break;
+        case 1: x.change(4, 0); break;
+        case 2: x.alibi(3, 1); break;
+        case 3: x.brothers(1, 3); break;
+        case 4: x.brothers(3, 0); break;
+        case 5: x.change(2, 4); break;
+        case 6: x.brothers(4, 3); break;
+        case 7: x.brothers(2, 1); break;
+        case 8: x.alibi(3, 1); break;
+        case 9: x.brothers(1, 4); break;
+        case 10: x.alibi(0, 0); break;
+        default: x.change(1, 3); break;
+      }
+    }
+    return x;
+  }
+
+  private static String people(AccusedChoose x) {
+    StringBuilder s = new StringBuilder();
+    for (int person = 0; person < x.count(0); person++) {
+      s.append(x.person(person, 3)).append(' ').append(x.person(person, 4)).append(' ');
+      s.append(x.person(person, 5)).append(' ').append(x.person(person, 6)).append(' ');
+    }
+    return s.toString();
+  }
+
+  private static void olderOnesStay() {
+    for (int changes = 0; changes <= 12; changes++) {
+      AccusedChoose x = changed(changes);
+      int left = changes;
+      while (x.count(6) > 0) {
+        x.back();
+        left--;
+        C.sameText(changes + " changes, taken back to " + left, people(x), people(changed(left)));
+      }
+      C.same("how many stay of " + changes, left, Math.max(0, changes - 8));
+    }
   }
 
   private static AccusedChoose changedOnce() {

@@ -145,6 +145,8 @@ public final class EdgeWhatIfTest {
     // 0, who has 66 months, and 1, who is WITHOUT and has no DEED to give for it.
     swaps("d39;p00017;p00010;b01;", -9, 1);
     String deeds = "d51;d44;d24;d36;";
+    swaps(deeds + "p20052;p70055;p60097;b10;x12;", 1, 0);
+    swaps(deeds + "p60097;p20052;p70055;b12;x01;", 12, 0);
     swaps(deeds + "p00007;p00007;p00007;p00007;p20052;p60097;p70055;b46;a00;a10;a20;a30;", 46, 0);
   }
 
@@ -258,13 +260,13 @@ public final class EdgeWhatIfTest {
   }
 
   private static void even(String night, int most, int... due) {
-    AccusedChoose x = Check.told(night);
-    C.same("even(-1) of " + night, x.even(-1), most);
-    for (int i = 0; i < due.length; i++) {
-      C.same("even(" + i + ") of " + night, x.even(i), due[i]);
+    due(night, "even(-1)", x -> x.even(-1), most);
+    for (int k = 0; k < due.length; k++) {
+      int i = k;
+      due(night, "even(" + i + ")", x -> x.even(i), due[i]);
     }
     for (int i : new int[] {due.length, due.length + 1, 6, 7, 120, Integer.MAX_VALUE}) {
-      C.same("even(" + i + ") of " + night, x.even(i), -9);
+      due(night, "even(" + i + ")", x -> x.even(i), -9);
     }
   }
 
@@ -538,6 +540,7 @@ public final class EdgeWhatIfTest {
     always("d00;d04;p00017;p00017;p00037;", 1);
     always("d00;d01;d02;p00027;p00057;p00077;", 3);
     always("d00;d04;p00017;p00017;p00037;x02;", 1);
+    always("d00;d01;d02;p00027;p00007;p00007;p00007;p00007;p00057;p00077;", 3);
     // 1, 2, .. 6, 0: 6 takes 0 ahead of 0, who is left 1; as it is and turned round 6 has 1.
     always("d00;d01;p00037;p00007;p00007;p00007;p00007;p00007;p00017;", 1);
   }
