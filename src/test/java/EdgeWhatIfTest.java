@@ -145,6 +145,13 @@ public final class EdgeWhatIfTest {
     // 0, who has 66 months, and 1, who is WITHOUT and has no DEED to give for it.
     swaps("d39;p00017;p00010;b01;", -9, 1);
     String deeds = "d51;d44;d24;d36;";
+    // They take 1, 4, 0, 2, 3. Both 0 and 2 (10 and 9 months, then 9 and 5) and 1 and 4 (9 and 10,
+    // then 8 and 8) would swap: 0 and 2 are the first.
+    String two = "d04;d53;d43;d55;d54;p00152;p50283;p90257;p30224;p70220;b30;b41;";
+    due(two, "allFromLast()", x -> x.allFromLast(), 42);
+    due(two, "fromLast(1, 1) + fromLast(4, 1)", x -> x.fromLast(1, 1) + x.fromLast(4, 1), 19);
+    due(two, "months(1, 3) + months(4, 4)", x -> x.months(1, 3) + x.months(4, 4), 16);
+    swaps(two, 2, 0);
     swaps(deeds + "p20052;p70055;p60097;b10;x12;", 1, 0);
     swaps(deeds + "p60097;p20052;p70055;b12;x01;", 12, 0);
     swaps(deeds + "p00007;p00007;p00007;p00007;p20052;p60097;p70055;b46;a00;a10;a20;a30;", 46, 0);
