@@ -732,9 +732,19 @@ public final class EdgeChoosingTest {
     s.append(x.morning(1)).append(' ').append(x.allFromLast()).append(' ').append(x.whose(-1, -1));
     s.append(' ').append(x.changes()).append(' ').append(x.putIn(9, 1)).append(' ');
     s.append(x.givenAway()).append(' ').append(x.caught(3, 1, 0)).append(' ').append(x.bestRule());
+    s.append(' ').append(x.rest(0)).append(' ').append(x.rest(1)).append(' ').append(x.rest(2));
+    s.append(' ').append(x.bribe(0)).append(' ').append(x.bribe(1)).append(' ').append(x.truth(0));
+    s.append(' ').append(x.truth(1)).append(' ').append(x.keeper()).append(' ').append(x.spared());
+    s.append(' ').append(x.swaps(0)).append(' ').append(x.parole()).append(' ').append(x.madeLight());
+    s.append(' ').append(x.newBrothers()).append(' ').append(x.always()).append(' ');
+    s.append(x.lots(3, 1, 0)).append(' ').append(x.bestOrder(-1)).append(' ').append(x.even(-1));
+    s.append(' ').append(x.fits(-1)).append(' ').append(x.judge());
     for (int person = 0; person < x.count(0); person++) {
       s.append(' ').append(x.least(person)).append(' ').append(x.fromLast(person, 0));
       s.append(' ').append(x.placeWorth(person)).append(' ').append(x.takes(person, 1));
+      s.append(' ').append(x.latest(person, 0)).append(' ').append(x.latest(person, 1));
+      s.append(' ').append(x.lastWord(person)).append(' ').append(x.bestDid(person));
+      s.append(' ').append(x.heavier(person, 0)).append(' ').append(x.alibiWorth(person, 0));
     }
     return s.toString();
   }

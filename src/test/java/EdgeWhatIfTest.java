@@ -380,6 +380,9 @@ public final class EdgeWhatIfTest {
     latest("d00;d01;p00037;p00027;p00017;p00007;", 0, 1, 60);
     latest("d00;d01;p00037;p00027;p00017;p00007;x12;", 0, 0, 60);
     latest("d00;d00;d00;p00077;p00077;p00077;p00077;", 3, 2, 60);
+    // The last one, moved to each place ahead: only ahead of 1, who takes 0, has he 1 month.
+    latest("d00;d01;p00007;p00017;p00007;p00007;p00007;p00007;p00037;", 6, 1, 3);
+    latest("d00;d01;p00007;p00007;p00017;p00007;p00007;p00007;p00037;", 6, 2, 3);
     // 60 behind the other are fewer than the 66 of the first place.
     latest("d39;p00017;p00017;", 0, 1, 66);
     latest("d38;p00017;p00017;", 0, 1, 60);
@@ -479,6 +482,8 @@ public final class EdgeWhatIfTest {
     newBrothers("d00;d04;p00037;p00017;p00017;b01;", -9);
     newBrothers("d00;d04;p00037;p00017;p00017;b02;", 1);
     newBrothers("d00;d04;p00037;p00017;p00017;b12;", 1);
+    // 0 left 0 for 1 and took what 2 DID: 70 months; as 2's BROTHER he takes 0, and it is 67.
+    newBrothers("d00;d04;p00037;p00017;p00021;b01;", 2);
   }
 
   private static void newBrothersFewest() {
