@@ -30,7 +30,21 @@ public final class LanguageTest {
     C.same("an annotation", code.contains("@") ? 1 : 0, 0);
     C.same("a text joined or not", code.contains("\"") ? 1 : 0, 0);
     lookAtMethods(code);
+    lookAtRoom(code);
     C.end();
+  }
+
+  /** All calls of a run share one room: objects are made with the object itself, by no call. */
+  private static void lookAtRoom(String code) {
+    int made = 0;
+    for (String line : code.split("\n")) {
+      if (line.matches(".*\\bnew\\b.*")) {
+        made++;
+        C.same("made by a field: " + line, line.matches(" +(private )?final .* = new .*;") ? 1 : 0, 1);
+      }
+      C.same("a copy: " + line, line.matches(".*\\b(clone|copyOf|copyOfRange)\\b.*") ? 1 : 0, 0);
+    }
+    C.same("objects were found", made > 30 ? 1 : 0, 1);
   }
 
   private static void lookAtMethods(String code) {
